@@ -540,13 +540,14 @@ public final class ShadowTag {
 
         void stepAll() {
             for (int runner = 0; runner < number; runner++) {
-                if (direction[runner] != NO_DIRECTION) {
-                    step(runner);
-                }
+                step(runner);
             }
         }
 
         private void step(int runner) {
+            if (!has(runner) || direction[runner] == NO_DIRECTION) {
+                return;
+            }
             int from = cell[runner];
             int way = direction[runner];
             int to = cellAlong(from, way, 1);
@@ -931,63 +932,62 @@ public final class ShadowTag {
 
         private boolean readThing(int thing) {
             int sign = nextSign();
-            if (sign != 'r' && sign != 'd' && sign != 'l' && sign != '.') {
-                return false;
-            }
-            position++;
-            kind[thing] = sign;
-            second[thing] = 0;
             switch (sign) {
                 case 'r':
-                    return readNumber(first, thing, 0, CELLS - 1) && readSign('h')
-                        && readNumber(second, thing, 1, HIGHEST);
+                    return readAs(sign, kind, thing) && readNumber(first, thing, 0, CELLS - 1)
+                        && readSign('h') && readNumber(second, thing, 1, HIGHEST);
                 case 'd':
-                    return readNumber(first, thing, 0, RUNNERS - 1) && readDirection(thing);
+                    return readAs(sign, kind, thing) && readNumber(first, thing, 0, RUNNERS - 1)
+                        && readDirection(thing);
                 case 'l':
-                    return readNumber(first, thing, 0, LAMPS - 1) && readOnOrOff(thing);
+                    return readAs(sign, kind, thing) && readNumber(first, thing, 0, LAMPS - 1)
+                        && readOnOrOff(thing);
+                case '.':
+                    return readAs(sign, kind, thing) && readNumber(first, thing, 1, TURNS_AT_ONCE);
                 default:
-                    return readNumber(first, thing, 1, TURNS_AT_ONCE);
+                    return false;
             }
         }
 
-        /** Reads a number into a row; a digit that makes it too great is left unread. */
+        /** Reads a number into a row; a digit that would make it too great is left unread. */
         private boolean readNumber(int[] row, int thing, int least, int most) {
             int number = nextDigit();
-            if (number < least || number > most || thing < 0 || thing >= row.length) {
+            if (number < least || number > most || !readAs(number, row, thing)) {
                 return false;
             }
-            position++;
-            for (int digit = 1; digit < TEXT_ROOM; digit++) {
-                int next = nextDigit();
-                if (number == 0 || next == NO_NUMBER || number * 10 + next > most) {
-                    break;
-                }
-                number = number * 10 + next;
-                position++;
+            // No number has more than two digits, and none begins with 0 but 0 itself.
+            int next = nextDigit();
+            if (number > 0 && next != NO_NUMBER && number * 10 + next <= most) {
+                return readAs(number * 10 + next, row, thing);
             }
-            row[thing] = number;
             return true;
         }
 
         private boolean readDirection(int thing) {
             switch (nextSign()) {
-                case 'n': second[thing] = 0; break;
-                case 'e': second[thing] = 1; break;
-                case 's': second[thing] = 2; break;
-                case 'w': second[thing] = 3; break;
-                case '-': second[thing] = -1; break;
+                case 'n': return readAs(0, second, thing);
+                case 'e': return readAs(1, second, thing);
+                case 's': return readAs(2, second, thing);
+                case 'w': return readAs(3, second, thing);
+                case '-': return readAs(-1, second, thing);
                 default: return false;
             }
-            position++;
-            return true;
         }
 
         private boolean readOnOrOff(int thing) {
-            int sign = nextSign();
-            if (sign != '+' && sign != '-') {
+            switch (nextSign()) {
+                case '+': return readAs(1, second, thing);
+                case '-': return readAs(0, second, thing);
+                default: return false;
+            }
+        }
+
+        /** Reads past the next sign, and puts what it means into a row. */
+        private boolean readAs(int meaning, int[] row, int thing) {
+            if (thing < 0 || thing >= row.length) {
                 return false;
             }
-            second[thing] = sign == '+' ? 1 : 0;
+            row[thing] = meaning;
             position++;
             return true;
         }
