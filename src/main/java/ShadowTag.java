@@ -269,7 +269,7 @@ public final class ShadowTag {
         }
         board.clear();
         platform.darkenShadowsOf(runner, board);
-        for (int other = 0; other < runners.number; other++) {
+        for (int other = 0; other < runners.number && other < RUNNERS; other++) {
             if (other != catcher) {
                 board.block(runners.cell[other]);
             }
@@ -493,7 +493,7 @@ public final class ShadowTag {
 
         /** Who stands on a cell; NONE if nobody does. */
         int standingOn(int place) {
-            for (int runner = 0; runner < number; runner++) {
+            for (int runner = 0; runner < number && runner < RUNNERS; runner++) {
                 if (cell[runner] == place) {
                     return runner;
                 }
@@ -511,7 +511,7 @@ public final class ShadowTag {
             if (standingOn(place) != NONE) {
                 return NOT_POSSIBLE;
             }
-            if (number >= RUNNERS) {
+            if (number < 0 || number >= RUNNERS) {
                 return FULL;
             }
             int runner = number;
@@ -572,7 +572,7 @@ public final class ShadowTag {
         }
 
         void shortenRespites() {
-            for (int runner = 0; runner < number; runner++) {
+            for (int runner = 0; runner < number && runner < RUNNERS; runner++) {
                 if (respite[runner] > 0) {
                     respite[runner]--;
                 }
@@ -580,7 +580,7 @@ public final class ShadowTag {
         }
 
         void addToAccounts() {
-            for (int runner = 0; runner < number; runner++) {
+            for (int runner = 0; runner < number && runner < RUNNERS; runner++) {
                 if (runner != catcher) {
                     account[runner]++;
                 }
@@ -588,7 +588,7 @@ public final class ShadowTag {
         }
 
         void spin() {
-            for (int runner = 0; runner < number; runner++) {
+            for (int runner = 0; runner < number && runner < RUNNERS; runner++) {
                 int row = cell[runner] / WIDTH;
                 int column = cell[runner] % WIDTH;
                 cell[runner] = column * WIDTH + WIDTH - 1 - row;
@@ -744,7 +744,7 @@ public final class ShadowTag {
             int from = runners.cell[runner];
             int away = opposite(lamps.side[lamp]);
             int length = Math.min(runners.height[runner] * lamps.reach[lamp], cellsToEdge(from, away));
-            for (int other = 0; other < runners.number; other++) {
+            for (int other = 0; other < runners.number && other < RUNNERS; other++) {
                 int distance = distanceAlong(from, runners.cell[other], away);
                 if (distance > 0 && distance < length) {
                     length = distance;
@@ -897,7 +897,7 @@ public final class ShadowTag {
         int things = 0;
 
         int append(char sign) {
-            if (length >= TEXT_ROOM) {
+            if (length < 0 || length >= TEXT_ROOM) {
                 return FULL;
             }
             signs[length] = sign;
@@ -1023,7 +1023,7 @@ public final class ShadowTag {
         }
 
         void record(Platform state) {
-            Platform place = ring[(oldest + states) % HISTORY_ROOM];
+            Platform place = ringPlace(oldest + states);
             if (place == null) {
                 return;
             }
@@ -1035,12 +1035,17 @@ public final class ShadowTag {
             }
         }
 
+        /** The place so far along the ring, which has no end; null ahead of its beginning. */
+        private Platform ringPlace(int along) {
+            return along < 0 ? null : ring[along % HISTORY_ROOM];
+        }
+
         /** Removes the latest state and puts it into another; false if there is none. */
         boolean takeBack(Platform into) {
             if (states == 0) {
                 return false;
             }
-            Platform latest = ring[(oldest + states - 1) % HISTORY_ROOM];
+            Platform latest = ringPlace(oldest + states - 1);
             if (latest == null) {
                 return false;
             }
